@@ -138,6 +138,16 @@ public final class PromiseTest {
         C.due("3 of blanks", Player.load(x, "   | || "), 0);
         C.due("3 acts are forgotten", x.count(3), 0);
         C.due("3 nothing to undo", x.undo(), -5);
+        KeyPath y = new KeyPath();
+        y.feed(0x63342020, 0x3a312020, 0, 0, 0);
+        C.due("3 blanks behind it are not read", y.load(2), -31);
+        C.due("4 the end", y.fault(1), 2);
+        y.feed(0x63343a31, 0x36202020, 0, 0, 0);
+        C.due("3 digits behind it are not read", y.load(4), 1);
+        C.due("3 but those ahead", y.note(0, 1), 1);
+        C.due("3 700 blanks", Player.load(y, " ".repeat(700)), 0);
+        C.due("3 700 bytes", Player.load(y, " ".repeat(695) + "c4:64"), 1);
+        C.due("3 700 digits", Player.load(y, "c4:" + "0".repeat(697)), -32);
         C.due("3 a chord is sorted", Player.load(x, "(g4 e4 c4):1"), 3);
         C.due("3 lowest first", x.note(0, 2), 60);
         C.due("3 highest last", x.note(2, 2), 67);
@@ -304,6 +314,20 @@ public final class PromiseTest {
         C.due("6 the first", x.drop(0), 0);
         C.due("6 none left", x.drop(0), -2);
         C.due("6 acts", x.count(3), 3);
+        KeyPath y = blocks("c4:16d4:16");
+        C.due("6 in the path before", y.key(0), 0);
+        y.drop(0);
+        C.due("6 silent", y.tones(0, -1), 0);
+        C.due("6 in the path", y.key(1), 2);
+        C.due("6 cost", y.cost(), 0);
+        y.undo();
+        C.due("8 sounds again", y.tones(0, 0), 16);
+        C.due("8 in the path", y.cost(), 70);
+        y.put(0, 16, 64);
+        C.due("5 sounds", y.tones(0, 4), 16);
+        C.due("5 in the path", y.chord(0), 0);
+        y.undo();
+        C.due("8 silent again", y.tones(0, 4), 0);
     }
 
     private static void shift() {
@@ -324,6 +348,21 @@ public final class PromiseTest {
         C.due("7 nothing changed", x.note(0, 2), 0);
         C.due("7 by nothing", x.shift(0), 2);
         C.due("7 acts", x.count(3), 6);
+        KeyPath y = Player.playing("g9:16");
+        C.due("7 in the path before", y.key(0), 7);
+        C.due("7 farthest down", y.shift(-127), 1);
+        C.due("7 in the path", y.key(0), 0);
+        C.due("7 farthest up", y.shift(127), 1);
+        for (int i = 1; i < 100; i++) {
+            y.put(i, 1, 20 + i);
+        }
+        C.due("7 a hundred", y.shift(-20), 100);
+        C.due("7 the last of them", y.note(99, 2), 99);
+        C.due("6 the first of a hundred", y.drop(0), 99);
+        C.due("6 the last of 99", y.drop(98), 98);
+        C.due("8 it is back", y.undo(), 9);
+        C.due("8 as is the other", y.undo(), 8);
+        C.due("5 a hundred again", y.put(0, 1, 0), -4);
     }
 
     private static void undo() {
@@ -352,6 +391,16 @@ public final class PromiseTest {
             C.due("8 one by one", x.undo(), i);
         }
         C.due("8 two are left", x.count(0), 2);
+        KeyPath y = Player.playing("c4:1d4:2e4:3f4:4g4:5a4:6b4:7c5:8d5:9e5:10f5:11");
+        for (int i = 0; i < 11; i++) {
+            C.due("8 drops", y.drop(0), 10 - i);
+        }
+        C.due("8 ten of eleven", y.count(3), 10);
+        for (int i = 9; i >= 0; i--) {
+            C.due("8 they come back", y.undo(), i);
+            C.due("8 as long as they were", y.note(0, 1), i + 2);
+        }
+        C.due("8 but the first", y.count(0), 10);
         C.due("8 not further", x.undo(), -5);
         x.put(20, 1, 1);
         Player.load(x, "x");
@@ -414,6 +463,8 @@ public final class PromiseTest {
         for (int[] a : wrong) {
             C.due("11 weight " + a[0] + " " + a[1] + " " + a[2], x.weight(a[0], a[1], a[2]), a[3]);
         }
+        C.due("11 fit before", x.fit(0, 0), 6300);
+        C.due("11 path before", x.key(0), 0);
         C.due("11 as it was", x.weight(0, 0, 7), 63);
         C.due("11 counts at once", x.fit(0, 0), 700);
         C.due("11 and in the path", x.key(0), 12);
@@ -503,6 +554,11 @@ public final class PromiseTest {
         C.due("15 whole", x.match(0, 0, 1), 1);
         C.due("15 silent upper", x.match(1, 0, 0), 0);
         C.due("15 silent lower", x.match(1, 0, 1), 1);
+        KeyPath y = blocks("(c4 d4):1");
+        C.due("15 lowest at once, upper", y.match(0, 0, 0), 49);
+        KeyPath z = blocks("c4:1 d4:2");
+        C.due("15 no common one, upper", z.match(0, 0, 0), 133);
+        C.due("15 no common one, lower", z.match(0, 0, 1), 3);
         C.due("15 by eight", x.match(2, 0, 1), 8);
         C.due("15 its upper", x.match(2, 0, 0), 3 * 35 + 5 * 44);
         int[][] wrong = {{-1, 0, 0}, {3, 0, 0}, {0, -1, 0}, {0, 24, 0}, {0, 0, -1}, {0, 0, 2}};
@@ -668,6 +724,9 @@ public final class PromiseTest {
         C.due("25 none such", x.through(1, 0), -1);
         C.due("25 kept from the pin", x.through(2, 0), -1);
         C.due("25 pinned", x.through(2, 7), x.cost());
+        KeyPath y = blocks("-:16 c4:16");
+        C.due("25 silent at first", y.through(0, 7), 40);
+        C.due("25 behind it", y.through(1, 12), 0);
         C.due("25 window", x.through(3, 0), -2);
         C.due("25 key", x.through(0, 24), -2);
         C.due("25 key below", x.through(0, -1), -2);
@@ -872,6 +931,11 @@ public final class PromiseTest {
         y.pin(0, 7);
         y.pin(1, 7);
         C.due("37 the fifth is not in it", y.confirmed(1), -1);
+        KeyPath w = blocks("(g4 b4 d5):16 (c4 e4 g4):16 (c4 e4 g4):16");
+        w.pin(0, 0);
+        w.pin(1, 7);
+        w.pin(2, 0);
+        C.due("37 the fifth is in an earlier one", w.confirmed(2), -1);
         KeyPath z = blocks("(e4 g#4 b4):16 (a4 c5 e5):16 (e4 g4 b4):16 (a4 c5 e5):16");
         for (int window = 0; window < 4; window++) {
             z.pin(window, 21);
