@@ -1,15 +1,7 @@
-import java.lang.reflect.Method;
-import java.nio.charset.StandardCharsets;
-import java.util.ArrayList;
-import java.util.Arrays;
-import java.util.HashMap;
-import java.util.List;
-import java.util.Map;
 import java.util.Random;
 
 /** Runs of calls, told by a seed, on the class and on the Model; every answer must be the same. */
 public final class ModelTest {
-    private static final Map<String, Method> FACE = new HashMap<>();
     private static final String[] CHANGES = {"feed", "load", "put", "drop", "shift", "undo", "windows", "weight",
         "net", "pin"};
     private static final String[] QUESTIONS = {"fault", "note", "tones", "match", "fit", "ranked", "overall",
@@ -17,23 +9,15 @@ public final class ModelTest {
         "firm", "segments", "segment", "pivot", "roman", "outside", "progression", "confirmed", "learnt",
         "foreign", "close", "degree", "name", "count"};
 
-    private final Checker checker;
     private final Random random;
-    private final long seed;
-    private final KeyPath x = new KeyPath();
-    private final Model model = new Model();
-    private final List<String> told = new ArrayList<>();
+    private final Twin twin;
 
     private ModelTest(Checker checker, long seed) {
-        this.checker = checker;
-        this.seed = seed;
         this.random = new Random(seed);
+        this.twin = new Twin(checker, "seed " + seed);
     }
 
     public static void main(String[] args) throws ReflectiveOperationException {
-        for (Method method : KeyPath.class.getDeclaredMethods()) {
-            FACE.put(method.getName(), method);
-        }
         long from = args.length > 0 ? Long.parseLong(args[0]) : 1;
         long to = args.length > 1 ? Long.parseLong(args[1]) : 1500;
         Checker checker = new Checker();
@@ -43,26 +27,13 @@ public final class ModelTest {
         checker.finish();
     }
 
-    private int ask(String name, int... a) throws ReflectiveOperationException {
-        Object[] boxed = Arrays.stream(a).boxed().toArray();
-        int got = (Integer) FACE.get(name).invoke(x, boxed);
-        int want = model.call(name, a);
-        told.add(name + Arrays.toString(a) + " " + want);
-        int wrong = checker.wrong();
-        checker.due("seed " + seed + ", call " + told.size() + ": " + name + Arrays.toString(a), got, want);
-        if (checker.wrong() > wrong) {
-            System.out.println(String.join("\n", told.subList(Math.max(0, told.size() - 40), told.size())));
-        }
-        return want;
-    }
-
     private void run() throws ReflectiveOperationException {
         int style = random.nextInt(8);
         if (style < 5) {
-            load(piece(style));
+            twin.load(piece(style));
         }
         if (style == 6) {
-            load(piece(0));
+            twin.load(piece(0));
             terms();
         }
         for (int call = 0; call < 60; call++) {
@@ -70,7 +41,7 @@ public final class ModelTest {
                 change(style);
             } else {
                 String name = QUESTIONS[random.nextInt(QUESTIONS.length)];
-                ask(name, arguments(name));
+                twin.ask(name, arguments(name));
             }
         }
         if (random.nextInt(3) == 0) {
@@ -81,20 +52,8 @@ public final class ModelTest {
     /** Each question once, so that a rare state is looked at from all sides. */
     private void everything() throws ReflectiveOperationException {
         for (String name : QUESTIONS) {
-            ask(name, arguments(name));
+            twin.ask(name, arguments(name));
         }
-    }
-
-    private void load(String text) throws ReflectiveOperationException {
-        byte[] bytes = text.getBytes(StandardCharsets.ISO_8859_1);
-        for (int at = 0; at < Math.min(700, bytes.length); at += 20) {
-            ask("feed", Player.four(bytes, at), Player.four(bytes, at + 4), Player.four(bytes, at + 8),
-                    Player.four(bytes, at + 12), Player.four(bytes, at + 16));
-        }
-        ask("load", Math.min(700, bytes.length));
-        ask("fault", 0);
-        ask("fault", 1);
-        ask("count", 0);
     }
 
     // ---- texts
@@ -155,9 +114,9 @@ public final class ModelTest {
 
     private void terms() throws ReflectiveOperationException {
         for (int i = 0; i < 24; i++) {
-            ask("weight", random.nextInt(2), random.nextInt(12), random.nextInt(3) * random.nextInt(50));
+            twin.ask("weight", random.nextInt(2), random.nextInt(12), random.nextInt(3) * random.nextInt(50));
         }
-        ask("net", random.nextInt(3) * random.nextInt(400), random.nextInt(3) * random.nextInt(400),
+        twin.ask("net", random.nextInt(3) * random.nextInt(400), random.nextInt(3) * random.nextInt(400),
                 random.nextInt(3) * random.nextInt(400), random.nextInt(6));
     }
 
@@ -166,15 +125,15 @@ public final class ModelTest {
         if (name.equals("load") || name.equals("feed")) {
             int kind = random.nextInt(6);
             if (kind == 0) {
-                load(piece(random.nextInt(4)));
+                twin.load(piece(random.nextInt(4)));
             } else if (kind == 1) {
-                ask("feed", random.nextInt(), 0x63343a38, 0x20202020, 0x20202020, 0x20202020);
+                twin.ask("feed", random.nextInt(), 0x63343a38, 0x20202020, 0x20202020, 0x20202020);
             } else if (kind == 2) {
-                ask("load", random.nextInt(4) == 0 ? random.nextInt(800) - 50 : 0);
+                twin.ask("load", random.nextInt(4) == 0 ? random.nextInt(800) - 50 : 0);
             }
             return;
         }
-        ask(name, arguments(name));
+        twin.ask(name, arguments(name));
     }
 
     private int window() {
